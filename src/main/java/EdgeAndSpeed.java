@@ -4,7 +4,7 @@ import java.util.Arrays;
 public final class EdgeAndSpeed {
     public static final int BAD = -1, NO = -2, FULL = -3, NONE = -4;
 
-    private static final long LEAST = Long.MIN_VALUE, LEAST_NO = LEAST + 2, LEAST_NONE = LEAST + 4;
+    private static final long LEAST = -9223372036854775808L, LEAST_NO = LEAST + 2, LEAST_NONE = LEAST + 4;
     private static final int TEXT_BYTES = 500, SPEEDS = 6, PIECES = 8, STEPS = 8, STEELS = 4;
     private static final int HANDS = 6, LOG_ROWS = 20, KEPT = 2;
     private static final int MOST_WEAR = 100, WEARS = MOST_WEAR + 1, STATES = PIECES * STEPS * WEARS;
@@ -340,7 +340,7 @@ public final class EdgeAndSpeed {
         int readInto(Bench into) {
             into.clear();
             place = 0;
-            while (place < length) {
+            for (int items = 0; items < TEXT_BYTES && place < length; items++) {
                 int begin = place;
                 int letter = byteAt(place);
                 if (!readNumbers(numbersOf(letter)) || !into.take(letter, told)) {
@@ -777,9 +777,9 @@ public final class EdgeAndSpeed {
         private void offerRest(int piece, int left) {
             for (int wear = 0; wear <= MOST_WEAR; wear++) {
                 if (wear > 0) {
-                    offer(CHANGE, piece, left, wear, gainOf(CHANGE, piece, left, wear));
+                    offer(CHANGE, piece, left, wear, gainAt(piece, left, 0) + ofChange);
                 }
-                offer(LEAVE, piece, left, wear, gainOf(LEAVE, piece, left, wear));
+                offer(LEAVE, piece, left, wear, by.bySpoilt + gainAtStart(piece + 1, wear));
             }
         }
 
@@ -860,7 +860,7 @@ public final class EdgeAndSpeed {
 
         /** A number of the plainest rule: i (0), a (1), j (2), how far it is off (3). */
         int plainestRule(int many, int what) {
-            int best = Integer.MAX_VALUE;
+            int best = rankOf(0, 0, 0);
             for (int i = 0; i < many; i++) {
                 best = Math.min(best, rankOf(i, 0, i));
                 for (int a = 0; a <= MOST_WEAR; a++) {

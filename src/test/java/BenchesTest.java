@@ -231,6 +231,8 @@ final class BenchesTest {
         Check.due("10 7 4 33 by 10000", x.pass(0, 0, 4, 0, 1), 0);
         Check.due("99 999 8 400 by 10000", x.pass(1, 1, 8, 1, 1), 31648);
         Check.due("steps beyond the piece's", x.pass(0, 0, 8, 0, 2), 1);
+        EdgeAndSpeed plain = Check.laid("v99,999;p99,8,50,10;");
+        Check.due("a hardness of 100 without steels", plain.pass(0, 0, 8, 0, 1), 7912);
         int[][] bad = {{-1, 0, 1, 0, 0}, {2, 0, 1, 0, 0}, {0, -1, 1, 0, 0}, {0, 2, 1, 0, 0}, {0, 0, 0, 0, 0}, {0, 0, 9, 0, 0},
             {0, 0, 1, -1, 0}, {0, 0, 1, 2, 0}, {0, 0, 1, 0, -1}, {0, 0, 1, 0, 3}, {7, 0, 1, 0, 0}, {0, 5, 1, 0, 0},
             {0, 0, 1, 3, 0}, {Integer.MIN_VALUE, 0, 1, 0, 0}, {0, Integer.MAX_VALUE, 1, 0, 1}};

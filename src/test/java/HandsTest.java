@@ -25,6 +25,7 @@ final class HandsTest {
         steels();
         badStates();
         judge();
+        judgeLast();
         judgeReach();
         parted();
         partedRows();
@@ -227,6 +228,12 @@ final class HandsTest {
         EdgeAndSpeed less = Check.laid("v10,0;p99,1,100,99;c99,0;b0,90;");
         // 10000 less 8910 less 990: 100
         does("quick does what is worth a little", less, at(4, 0, 1, 0), 0);
+        EdgeAndSpeed naught = Check.laid("v50,0;p41,1,100,99;c98,0;b0,91;");
+        // 9000 less 8918 less 82: nothing, as leaving it
+        does("a pass ahead of leaving", naught, at(4, 0, 1, 0), 0);
+        EdgeAndSpeed cut = Check.laid("v55,2;v1,0;p55,2,100,99;c60,0;b1,5;k8,109;");
+        // two passes, the second by 5 hundredths broken: 95000 less 300 less 200; one slow pass: 100000 less 5500
+        does("as good, the lower number", cut, at(4, 0, 2, 0), 0);
         EdgeAndSpeed nought = Check.laid("v10,0;p1,1,100,99;c90,0;b0,91;");
         // 9000 less 8190 less 10
         does("quick pays for the broken edge's minutes", nought, at(4, 0, 1, 0), 0);
@@ -257,6 +264,12 @@ final class HandsTest {
         does("best leaves it", y, at(0, 0, 1, 0), 49);
         value("best leaves it", y, at(0, 0, 1, 0), 0);
         means("half of a change, a pass", y, at(1, 0, 1, 0), 300, 500000);
+        EdgeAndSpeed rare = Check.laid("v10,0;p10,2,100,10;p10,1,100,90;b0,99;k1,999;");
+        // second piece: 5400 less 77220 less 6000 is -77820; first: 600 at the last pass, and what comes behind
+        value("unbroken by one hundredth", rare, at(1, 1, 1, 0), 5400 - 77220 - 6000);
+        value("so twice", rare, at(1, 0, 1, 0), 600 - 77220 - 77820 - 6000);
+        value("new edges do not wear", Check.laid("v10,0;p10,1,100,10;"), at(0, 0, 1, 100), 54000);
+        does("at wear 100", Check.laid("v10,0;p10,1,100,10;"), at(0, 0, 1, 100), 0);
         EdgeAndSpeed z = Check.laid("v10,0;p10,1,100,10;b0,100;b1,0;");
         value("breaks for sure", z, at(1, 0, 1, 0), -84000);
         value("does not", z, at(1, 0, 1, 1), 54000);
@@ -351,6 +364,14 @@ final class HandsTest {
         EdgeAndSpeed even = Check.laid("v10,10;v10,10;p10,2,100,90;h0;");
         even.hand(0, 1);
         Check.due("another number, the same value", even.judge(1, 0), -4);
+    }
+
+    /** Promise 12: wear 100, one step left, the last piece. */
+    private static void judgeLast() {
+        EdgeAndSpeed x = Check.laid("v10,250;p10,4,100,90;p10,1,100,0;");
+        // speed 0 wears 100 in piece 0 and costs nothing but minutes; piece 1 is worth nothing, at 100 it breaks
+        Check.due("at 100", x.judge(1, 0), 1100);
+        Check.due("one step left", Check.laid("v10,0;v20,0;p10,2,100,90;k2,20;").judge(1, 0), -4);
     }
 
     /** Promise 12: more left first, less wear first; what it may come to alone. */

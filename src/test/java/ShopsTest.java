@@ -148,6 +148,11 @@ final class ShopsTest {
         for (int[] b : bad) {
             Check.due("bad best pay", x.bestPay(b[0], b[1]), -1);
         }
+        // he takes speed 1 for more than 98 pence (98 inches), for more than 99 (99 inches)
+        Check.due("99 pence", Check.laid("v1,0;v2,0;p98,1,100,999;").bestPay(0, 60), 99);
+        Check.due("100 pence", Check.laid("v1,0;v2,0;p99,1,100,999;").bestPay(0, 60), 0);
+        Check.due("98 pence", Check.laid("v1,0;v2,0;p99,1,100,999;").bestPay(0, 59), 98);
+        Check.due("as much by 0 and by 4", Check.laid("v10,0;v20,0;p10,1,100,8;").bestPay(0, 18), 0);
         EdgeAndSpeed all = Check.laid("v1,0;v99,0;p99,1,100,999;h0;");
         // 360000 u less 3636 u above 98 times 6000 times 9: from 15 pence on he takes the quick one
         Check.due("much worth, toil 9", all.bestPay(0, 9), 15);

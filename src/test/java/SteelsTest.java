@@ -44,6 +44,9 @@ final class SteelsTest {
         Check.due("soft, hard", x.guess(0, 1), 360000 - 12000 - 12000);
         Check.due("hard, soft", x.guess(1, 0), 360000 - 12000);
         Check.due("new object", new EdgeAndSpeed().guess(0, 0), 54000);
+        EdgeAndSpeed fine = Check.laid("v10,100;p10,1,0,10;p10,2,10,10;");
+        Check.due("from wear 0", fine.guess(0, 0), 120000 - 12000);
+        Check.due("from wear 0, blind", fine.blind(1), 1080000);
     }
 
     /** Promise 15: the guess, its sum, known, known less blind. */
