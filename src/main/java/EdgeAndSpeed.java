@@ -387,7 +387,7 @@ public final class EdgeAndSpeed {
         }
 
         private int byteAt(int i) {
-            return within(i, 0, length - 1) ? bytes[i] & 255 : 0;
+            return i >= 0 && i < length && i < bytes.length ? bytes[i] & 255 : 0;
         }
     }
 
@@ -676,25 +676,29 @@ public final class EdgeAndSpeed {
             ofChange = by.ofSpending(bench.changeHundredths(), bench.changeCost());
         }
 
+        private static int placeOf(int piece, int left, int wear) {
+            return (piece * STEPS + left - 1) * WEARS + wear;
+        }
+
         int actAt(int piece, int left, int wear) {
-            int place = (piece * STEPS + left - 1) * WEARS + wear;
+            int place = placeOf(piece, left, wear);
             return place >= 0 && place < acts.length ? acts[place] : NOTHING;
         }
 
         void setAct(int piece, int left, int wear, int act) {
-            int place = (piece * STEPS + left - 1) * WEARS + wear;
+            int place = placeOf(piece, left, wear);
             if (place >= 0 && place < acts.length) {
                 acts[place] = (byte) act;
             }
         }
 
         long gainAt(int piece, int left, int wear) {
-            int place = (piece * STEPS + left - 1) * WEARS + wear;
+            int place = placeOf(piece, left, wear);
             return place >= 0 && place < gains.length ? gains[place] : 0;
         }
 
         void setGain(int piece, int left, int wear, long gain) {
-            int place = (piece * STEPS + left - 1) * WEARS + wear;
+            int place = placeOf(piece, left, wear);
             if (place >= 0 && place < gains.length) {
                 gains[place] = gain;
             }
@@ -785,7 +789,7 @@ public final class EdgeAndSpeed {
 
         /** Of several the lowest number: what is offered later must be greater. */
         private void offer(int act, int piece, int left, int wear, long gain) {
-            int place = (piece * STEPS + left - 1) * WEARS + wear;
+            int place = placeOf(piece, left, wear);
             if (place < 0 || place >= gains.length || place >= acts.length) {
                 return;
             }
@@ -851,9 +855,9 @@ public final class EdgeAndSpeed {
 
         int offBy(int i, int a, int j) {
             int off = 0;
-            for (int row = 0; row < rows; row++) {
-                int told = at(wears, row) < a ? i : j;
-                off += told == at(speeds, row) ? 0 : 1;
+            for (int row = 0; row < rows && row < LOG_ROWS; row++) {
+                int told = wears[row] < a ? i : j;
+                off += told == speeds[row] ? 0 : 1;
             }
             return off;
         }

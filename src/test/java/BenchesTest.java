@@ -92,6 +92,9 @@ final class BenchesTest {
         Check.due("pieces then", x.count(1), 2);
         Check.due("write from the begin", Check.write(x, "v1,1;"), 5);
         Check.due("no fault", x.fault(), -4);
+        x.wipe();
+        Check.write(x, "v1,1");
+        Check.due("what was wiped is not read", x.fault(), 0);
     }
 
     /** Promise 4: the first byte of the first item that is not so. */

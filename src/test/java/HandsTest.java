@@ -268,6 +268,7 @@ final class HandsTest {
         // second piece: 5400 less 77220 less 6000 is -77820; first: 600 at the last pass, and what comes behind
         value("unbroken by one hundredth", rare, at(1, 1, 1, 0), 5400 - 77220 - 6000);
         value("so twice", rare, at(1, 0, 1, 0), 600 - 77220 - 77820 - 6000);
+        value("one pass ahead of that", rare, at(1, 0, 2, 0), -155866 - 6000);
         value("new edges do not wear", Check.laid("v10,0;p10,1,100,10;"), at(0, 0, 1, 100), 54000);
         does("at wear 100", Check.laid("v10,0;p10,1,100,10;"), at(0, 0, 1, 100), 0);
         EdgeAndSpeed z = Check.laid("v10,0;p10,1,100,10;b0,100;b1,0;");
@@ -388,6 +389,12 @@ final class HandsTest {
         String bench = "v10,250;v15,600;p10,2,100,90;p10,1,100,90;k8,29;";
         Check.due("comes to 50 alone", Check.laid(bench).judge(1, 0), -4);
         Check.due("by a break it comes to 0", Check.laid(bench + "b0,1;b1,0;").judge(1, 0), 1000);
+        // a first pass always breaks, so it never comes to 10, where it would change and break again
+        EdgeAndSpeed sure = Check.laid("v10,100;p10,1,100,5;p10,1,100,5;h0;c0,0;b0,100;b10,0;");
+        sure.hand(1, 5);
+        Check.due("never comes there unbroken", sure.judge(1, 0), -4);
+        Check.due("there it is worse", sure.value(1, 0, 1, 1, 10), 0);
+        Check.due("than the best", sure.value(0, 0, 1, 1, 10), 30000);
         // a hand that comes nowhere where it errs: SET 1 would err at wear 1, but never comes there
         EdgeAndSpeed v = Check.laid("v10,0;v20,0;p10,1,100,90;p10,1,100,90;b1,100;");
         v.hand(0, 1);
